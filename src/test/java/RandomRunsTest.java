@@ -4,6 +4,7 @@ import java.util.Random;
 public final class RandomRunsTest {
     private static final int RUNS = 400;
     private static final int CALLS = 512;
+    private static final int[] EXTREMES = {Integer.MIN_VALUE, Integer.MAX_VALUE, -1, 36, 37, 64, 256, 1 << 16};
     private static final String LETTERS = "Gtembs0123456789tembs0123456789X";
 
     private final Random random;
@@ -55,14 +56,21 @@ public final class RandomRunsTest {
     }
 
     private int cell() {
-        return random.nextInt(20) == 0 ? random.nextInt(60) - 12 : random.nextInt(Math.max(1, cells()));
+        if (random.nextInt(100) == 0) {
+            return EXTREMES[random.nextInt(EXTREMES.length)];
+        }
+        return random.nextInt(20) == 0 ? random.nextInt(60) - 12 : random.nextInt(cells());
     }
 
     private int cells() {
         return tried.about(0) * tried.about(1);
     }
 
+    /** Mostly a number from 0 to the limit. */
     private int up(int limit) {
+        if (random.nextInt(100) == 0) {
+            return EXTREMES[random.nextInt(EXTREMES.length)];
+        }
         return random.nextInt(25) == 0 ? random.nextInt(limit + 20) - 10 : random.nextInt(limit + 1);
     }
 
