@@ -570,6 +570,10 @@ public final class PromisesTest {
         due("best(9, 1)", y.best(9, 1), 0);
         due("best(0, 0)", y.best(0, 0), 1);
         due("best(0, 0) of equal ones", new HillSight().best(0, 0), 0);
+        // A place below the grid would see all cells.
+        HillSight z = read("G4201100000");
+        due("best(0, 0) inside the grid", z.best(0, 0), 5);
+        due("best(0, 1) inside the grid", z.best(0, 1), 1);
         due("best(-1, 0)", y.best(-1, 0), BAD);
         due("best(10, 0)", y.best(10, 0), BAD);
         due("best(0, 2)", y.best(0, 2), BAD);
