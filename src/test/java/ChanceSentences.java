@@ -115,7 +115,6 @@ final class ChanceSentences extends Sentences {
 
     private static void drawn() {
         promise(30);
-        leads("Changes heights at random in a copy of the grid.");
         says("Each time the random number x becomes x * 6364136223846793005 + 1442695040888963407 in long arithmetic,"
             + " which wraps,");
         HillSight x = new HillSight();
@@ -170,6 +169,24 @@ final class ChanceSentences extends Sentences {
         hand.seed(1);
         // 1 becomes 7806831264735756412, whose highest 31 bits are 908834774: cell 2 gets the height 3.
         due("drawn(1) from 1", hand.drawn(1), 5);
+        says("Changes heights at random in a copy of the grid.");
+        String start = "G62" + zeros(12) + "t005";
+        HillSight changed = read(start);
+        HillSight twin = read(start);
+        for (HillSight x : new HillSight[] {changed, twin}) {
+            x.raise(1, 7);
+            x.raise(7, 4);
+            x.build(11, 2);
+            x.set(1, 3);
+            x.set(3, 4);
+        }
+        for (int s = 1; s <= 12; s++) {
+            changed.seed(s);
+            due("drawn(3) from " + s + ", the grid as it is now", changed.drawn(3), sumOf(twin, s, 3));
+            for (int i = 0; i < 3; i++) {
+                twin.undo();
+            }
+        }
         says("Heights stay from one time to the next one.");
         for (String map : maps) {
             for (int m = 2; m <= 20; m++) {

@@ -301,6 +301,12 @@ final class GridSentences extends Sentences {
         due("hollow(0), around two bends", bow.hollow(0),
             63L | 1L << 11 | 1L << 17 | 1L << 23 | ((1L << 12) - 1) << 24);
         due("about(8), around two bends", bow.about(8), 1);
+        HillSight hook = read("G43" + zeros(12) + "t080t010s1");
+        due("hollow(0), down and one step back", hook.hollow(0), 1 << 3 | 1 << 7 | 1 << 10 | 1 << 11);
+        due("about(8), down and one step back", hook.about(8), 1);
+        HillSight valley = read("G55" + zeros(25) + "t020s1");
+        due("hollow(0), down and up again", valley.hollow(0), (1 << 25) - 1 - 33 * (2 | 4 | 8));
+        due("about(8), down and up again", valley.about(8), 1);
         HillSight one = read("G33" + zeros(9) + "t000t020t060s1");
         due("hollow(0) of one cell", one.hollow(0), 256);
         due("about(8) of one cell", one.about(8), 1);

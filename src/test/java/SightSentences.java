@@ -1,6 +1,8 @@
 /** The promises of what is seen: 14 to 22. */
 final class SightSentences extends Sentences {
     private static final String WALL = "G52" + "00300" + "00000";
+    /** Only from the last cell, a hill, more than the neighbours are seen with the rise 0. */
+    private static final String HIGH_END = "G66" + "0".repeat(35) + "9" + "b4";
 
     static void test() {
         sees();
@@ -300,6 +302,13 @@ final class SightSentences extends Sentences {
         strip.build(8, 0);
         due("best(0, 0) with none hidden", strip.best(0, 0), 0);
         due("best(0, 1) with none hidden", strip.best(0, 1), 0);
+        HillSight end = read(HIGH_END);
+        due("best(0, 0), the highest cell", end.best(0, 0), 35);
+        due("best(0, 1), the highest cell", end.best(0, 1), 0);
+        // From a place below the grid no hill would be in the way.
+        HillSight inside = read("G42" + "0110" + "0000");
+        due("best(0, 0), no place outside", inside.best(0, 0), 5);
+        due("best(0, 1), no place outside", inside.best(0, 1), 1);
         says("rise: the rise of the tower, 0 to 9");
         // The hill, cell 2, sees all with each rise, cell 1 with 6 or more, cell 0 with 9.
         HillSight wall = read(WALL + "e9");
@@ -338,6 +347,10 @@ final class SightSentences extends Sentences {
         due("two(0, 2)", y.two(0, 2), 18);
         due("two(0, 0)", y.two(0, 0), 7);
         due("two(0, 1)", y.two(0, 1), 10);
+        HillSight end = read(HIGH_END);
+        due("two(0, 0) with the highest cell", end.two(0, 0), 0);
+        due("two(0, 1) with the highest cell", end.two(0, 1), 35);
+        due("two(0, 2) with the highest cell", end.two(0, 2), 0);
     }
 
     private static void twoOrder() {

@@ -1,3 +1,6 @@
+import java.util.ArrayList;
+import java.util.List;
+
 /**
  * The sections CHANGES and OBSERVATIONS of the description, and the promises of what is kept: 1, 6 to 13, 24 to 26, 31
  * and 32.
@@ -70,6 +73,27 @@ final class StateSentences extends Sentences {
             }
             due("undo() of what is not kept", x.undo(), LATE);
         }
+        List<String> grids = new ArrayList<>();
+        HillSight x = read("G220000t001t012t023t034t005");
+        for (int i = 0; i < 30; i++) {
+            grids.add(grid(x));
+            changeOfKind(x, i);
+        }
+        due("about(9) of all kinds", x.about(9), 14);
+        for (int i = 29; i >= 16; i--) {
+            x.undo();
+            dueText("the grid before change " + i, grid(x), grids.get(i));
+        }
+        due("undo() of change 15", x.undo(), LATE);
+    }
+
+    private static void changeOfKind(HillSight x, int i) {
+        switch (i % 4) {
+            case 0 -> x.raze(i % 5);
+            case 1 -> x.raise(i % 3, i % 10);
+            case 2 -> x.build(i % 4, i % 7);
+            default -> x.set(i / 4 % 4, 1 + i % 9);
+        }
     }
 
     private static void computations() {
@@ -105,6 +129,13 @@ final class StateSentences extends Sentences {
             due("find(11, 1), observation " + i, x.find(11, 1), i);
         }
         due("find(11, 1), observation 7", x.find(11, 1), FULL);
+        HillSight sixth = new HillSight();
+        for (int i = 0; i < 5; i++) {
+            sixth.find(3, 1);
+        }
+        due("which() of five", sixth.which(), 15);
+        sixth.find(3, 0);
+        due("which() of six, the sixth wrong", sixth.which(), 0);
         says("An observation says that a cell is visible, or not, from an unknown cell with the rise eye.");
         due("which() at sight 1", x.which(), 1 << 4 | 1 << 5 | 1 << 10 | 1 << 11);
         HillSight y = read("G52" + "00300" + "00000" + "e0");
@@ -261,6 +292,13 @@ final class StateSentences extends Sentences {
         due("tower(1, 3) within another view", x.tower(1, 3), 0);
         due("tower(3, 3)", x.tower(3, 3), 5);
         due("tower(4, 3)", x.tower(4, 3), 5);
+        HillSight five = read("G62" + zeros(12) + "t000t050t020t050t000s1");
+        int[] unshared = {0, 0, 4, 0, 0};
+        for (int t = 0; t < 5; t++) {
+            due("tower(" + t + ", 3) of five", five.tower(t, 3), unshared[t]);
+        }
+        due("tower(1, 3) with the first tower as twin", read("G220000t000t000").tower(1, 3), 0);
+        due("tower(0, 3) with the last tower as twin", read("G220000t000t000").tower(0, 3), 0);
         HillSight alone = read("G66" + zeros(36) + "t000");
         due("tower(0, 2) of all", alone.tower(0, 2), 36);
         due("tower(0, 3) of the only one", alone.tower(0, 3), 36);

@@ -81,6 +81,9 @@ final class TextSentences extends Sentences {
             faultDue(FLAT + "t0" + other + "0", 9);
             faultDue(FLAT + "t00" + other, 10);
         }
+        faultDue("G66" + zeros(36) + "t0:0", 41);
+        faultDue("G66" + zeros(36) + "t2/0", 41);
+        faultDue("G66" + zeros(36) + "t00:", 42);
         for (int rise = 0; rise <= 9; rise++) {
             HillSight x = read(FLAT + "t03" + rise);
             due("tower(0, 0) of rise " + rise, x.tower(0, 0), 3);
