@@ -1,9 +1,10 @@
 import java.io.IOException;
 
-/** Each sentence of the document that names a boundary case, with a test of its own; see Sentences. */
+/** Each sentence of the document, above all those that name a boundary case, with a test of its own; see Sentences. */
 public final class BoundariesTest {
-    public static void main(String[] args) throws IOException {
+    public static void main(String[] args) throws IOException, ReflectiveOperationException {
         Sentences.open();
+        FrameSentences.test();
         ErrorSentences.test();
         GridSentences.test();
         TextSentences.test();

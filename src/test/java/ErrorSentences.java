@@ -1,4 +1,4 @@
-/** The section ERRORS of the description, and the number of calls that an object is used for. */
+/** The section ERRORS of the description. */
 final class ErrorSentences extends Sentences {
     static void test() {
         section("Description");
@@ -15,7 +15,6 @@ final class ErrorSentences extends Sentences {
         numberedFromZero();
         setsOfBits();
         lowestTerms();
-        lastCalls();
     }
 
     private static void errorsAreNegative() {
@@ -298,27 +297,5 @@ final class ErrorSentences extends Sentences {
         x.set(3, 9);
         due("part(true) of 36/36", x.part(true), 1);
         due("part(false) of 36/36", x.part(false), 1);
-    }
-
-    private static void lastCalls() {
-        section("What it is");
-        says("An object is used for at most 512 calls after it has been made");
-        HillSight x = new HillSight();
-        for (int round = 1; round <= 84; round++) {
-            x.raise(0, round % 10);
-            x.build(1, 2);
-            x.raze(0);
-            x.set(0, round % 10);
-            x.keep(1);
-            x.undo();
-        }
-        due("about(9), call 505", x.about(9), 13);
-        due("cell(0, 0), call 506", x.cell(0, 0), 4);
-        due("about(3), call 507", x.about(3), 1);
-        due("undo(), call 508", x.undo(), 12);
-        due("about(2), call 509", x.about(2), 1);
-        due("again(1), call 510", x.again(1), 0);
-        due("about(3), call 511", x.about(3), 4);
-        due("undo(), call 512", x.undo(), LATE);
     }
 }

@@ -108,13 +108,11 @@ abstract class Sentences {
         System.out.println(what);
     }
 
-    /** Tells what of the description and the promises no test quotes; answers how much was wrong. */
+    /** Tells what of the document no test quotes; answers how much was wrong. */
     static int finish() {
         endTest();
         for (String name : sections.keySet()) {
-            if (name.equals("Description") || name.startsWith("Promise ")) {
-                tellUnquoted(name);
-            }
+            tellUnquoted(name);
         }
         return wrong;
     }
@@ -150,7 +148,7 @@ abstract class Sentences {
         return x;
     }
 
-    /** An object with something of everything: towers, settings, observations, changes, a saved state, a random number. */
+    /** An object with something of all: towers, settings, observations, changes, a saved state, a random number. */
     static HillSight rich() {
         HillSight x = read("G32010203t012t040e2m1b1s4");
         x.keep(0);
