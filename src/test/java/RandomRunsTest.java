@@ -139,8 +139,8 @@ public final class RandomRunsTest {
                     same("undo()", tried.undo(), due.undo());
                 }
                 break;
-            case 7: same("keep(" + t + ")", tried.keep(t - 1), due.keep(t - 1)); break;
-            default: same("again(" + t + ")", tried.again(t - 1), due.again(t - 1)); break;
+            case 7: t--; same("keep(" + t + ")", tried.keep(t), due.keep(t)); break;
+            default: t--; same("again(" + t + ")", tried.again(t), due.again(t)); break;
         }
     }
 
